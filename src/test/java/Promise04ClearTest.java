@@ -1,0 +1,47 @@
+/** Promise 4: clear. */
+public final class Promise04ClearTest {
+    public static void main(String[] args) {
+        textIsEmptyThen();
+        otherThingsStay();
+        namesAreFreeAgain();
+        Expect.finish();
+    }
+
+    private static void textIsEmptyThen() {
+        Desk desk = Desk.of(":a", "jump :a", "nop", "jump :b");
+        Expect.due("long jumps before", desk.state(24), 1);
+        Expect.due("clear()", desk.clear(), 3);
+        Expect.due("items", desk.state(21), 0);
+        Expect.due("labels", desk.state(22), 0);
+        Expect.due("long jumps", desk.state(24), 0);
+        Expect.due("item(0, 0)", desk.item(0, 0), -2);
+        Expect.due("clear() again", desk.clear(), 0);
+        Expect.due("assemble() of nothing", desk.assemble(), 0);
+    }
+
+    private static void otherThingsStay() {
+        Desk desk = Desk.of("const v2 5", "ret v2");
+        desk.assemble();
+        desk.run(2);
+        desk.type("nop");
+        Expect.due("clear()", desk.clear(), 2);
+        Expect.same("the code", desk.units(), "21010 527");
+        Expect.due("v2", desk.state(2), 5);
+        Expect.due("the place", desk.state(16), 1);
+        Expect.due("steps", desk.state(17), 2);
+        Expect.due("stopped", desk.state(18), 1);
+        Expect.due("the outcome", desk.state(19), 5);
+        Expect.due("characters", desk.state(23), 3);
+        Expect.due("the line typed before", desk.line(), 0);
+    }
+
+    private static void namesAreFreeAgain() {
+        Desk desk = Desk.of(":a", "add v1 v2 v3", "cases 5 :a :a");
+        desk.clear();
+        Expect.due("the label again", desk.line(":a"), 101);
+        Expect.due("a new first item", desk.line("nop"), 0);
+        Expect.due("a new second item", desk.line("ret v4"), 1);
+        Expect.due("assemble()", desk.assemble(), 2);
+        Expect.same("the code", desk.units(), "0 1039");
+    }
+}

@@ -1,0 +1,100 @@
+import java.util.Arrays;
+
+/** Promise 10: check. */
+public final class Promise10CheckTest {
+    private static final int NONE = -2;
+    private static final int SHORT = 40;
+    private static final int LONG = 41;
+    private static final int TABLE = 43;
+
+    public static void main(String[] args) {
+        allIsWell();
+        unreadable();
+        strays();
+        tables();
+        marksDoNotStay();
+        nothingChanges();
+        Expect.finish();
+    }
+
+    private static void due(int want, int... units) {
+        Expect.due("check() of " + Arrays.toString(units), Desk.ofUnits(units).check(), want);
+    }
+
+    private static void allIsWell() {
+        due(NONE);
+        due(NONE, 0);
+        due(NONE, SHORT);
+        due(NONE, LONG, 0);
+        due(NONE, LONG, 2, 0);
+        due(NONE, 0, SHORT + 256 * 255);
+        due(NONE, 50, 2, 51, 65534, 56, 65532);
+        due(NONE, TABLE, 2, 256, 1, 0, 77);
+        due(NONE, 256, 1, 0, 77, TABLE, 65532);
+        due(NONE, LONG, 2, 256, 1, 0, 2);
+        due(NONE, SHORT + 256, 256, 1, 0, 0);
+        Desk desk = Desk.of(":a", "jz v1 :b", "table v1 :c", "jump :a", ":b", "ret v0", ":c", "cases 1 :a :b");
+        desk.assemble();
+        Expect.due("check() of an assembled text", desk.check(), NONE);
+    }
+
+    private static void unreadable() {
+        due(0, 2);
+        due(1, 0, 512);
+        due(2, 0, 0, 19);
+        due(3, 19, 2, 0, 2);
+        due(0, 256, 5, 0, 0, 0, 0, 0, 0);
+        due(4, 256, 1, 2, 2, 256, 1, 2);
+        due(1, 0, 2, 2);
+        // The stray jump at 0 is told only if all can be read.
+        due(2, SHORT + 256 * 100, 0, 2);
+    }
+
+    private static void strays() {
+        due(0, SHORT + 256 * 2, 19, 0);
+        due(0, SHORT + 256);
+        due(0, SHORT + 256 * 255);
+        due(0, LONG, 2);
+        due(0, LONG, 1);
+        due(0, 50, 1);
+        due(0, 51, 32767);
+        due(0, 56, 32768);
+        due(0, 56, 2);
+        due(0, SHORT + 256 * 2, 256, 1, 0, 0);
+        due(1, 0, LONG, 50, 56, 1);
+        due(2, LONG, 2, 56, 1, 51, 1);
+    }
+
+    private static void tables() {
+        due(0, TABLE, 2, 0);
+        due(0, TABLE, 0);
+        due(0, TABLE, 2);
+        due(0, TABLE, 65535);
+        due(NONE, TABLE, 3, 0, 256, 1, 0, 0);
+        due(0, TABLE, 4, 256, 1, 0, 0);
+        // At 3 cases could be READ, but going through the CODE none begins there.
+        due(0, TABLE, 3, 19, 256, 1, 0, 0);
+    }
+
+    private static void marksDoNotStay() {
+        Desk desk = Desk.ofUnits(0, 0, SHORT + 256 * 255);
+        Expect.due("check() with a thing at 1", desk.check(), NONE);
+        desk.set(0, 19);
+        Expect.due("check() with none at 1", desk.check(), 2);
+        desk.set(0, 0);
+        Expect.due("check() with a thing at 1 again", desk.check(), NONE);
+        desk.accept("jump :a");
+        desk.accept(":a");
+        desk.assemble();
+        Expect.due("check() of less code than before", desk.check(), 0);
+    }
+
+    private static void nothingChanges() {
+        Desk desk = Desk.of("const v1 5", "jump :a", ":a", "nop");
+        desk.assemble();
+        desk.run(2);
+        String before = desk.snapshot();
+        desk.check();
+        Expect.same("all after check()", desk.snapshot(), before);
+    }
+}
