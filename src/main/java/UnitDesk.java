@@ -258,6 +258,10 @@ public final class UnitDesk {
         private final String arguments;
         /** The bit from which the NUMBER or d fills the bits up to the end; 0 without such a field. */
         private final int fieldAt;
+        /** The bit from which B stands: with two units and no LABEL, in the second unit. */
+        private final int secondRegisterAt;
+        /** Of cases the LABELS are no place that it goes to itself. */
+        private final boolean goes;
 
         Kind(int op, int units, String word, String arguments, int fieldAt) {
             this.op = op;
@@ -265,6 +269,9 @@ public final class UnitDesk {
             this.word = word;
             this.arguments = arguments;
             this.fieldAt = fieldAt;
+            boolean namesLabel = arguments.indexOf('L') >= 0;
+            this.secondRegisterAt = units == 2 && !namesLabel ? 16 : 12;
+            this.goes = namesLabel && units < 3;
         }
 
         int leastArguments() {
@@ -284,19 +291,9 @@ public final class UnitDesk {
             return arguments.indexOf(sort) >= 0;
         }
 
-        /** Of cases the LABELS are no place that it goes to itself. */
-        boolean goes() {
-            return this != CASES && has('L');
-        }
-
         boolean holdsNumber(int n) {
             int half = this == ADDI ? 128 : 32768;
             return n >= -half && n < half;
-        }
-
-        /** With two units and no LABEL, B stands in the second unit. */
-        int secondRegisterAt() {
-            return units == 2 && !has('L') ? 16 : 12;
         }
 
         int fieldBits(int value) {
@@ -687,10 +684,10 @@ public final class UnitDesk {
 
         private void writeBits(Code code, Item item) {
             Kind form = item.form();
-            int field = form.goes() ? addressOf(item.labels[0]) - item.address : item.number;
+            int field = form.goes ? addressOf(item.labels[0]) - item.address : item.number;
             int bits = form.op
                 | item.registers[0] << 8
-                | item.registers[1] << form.secondRegisterAt()
+                | item.registers[1] << form.secondRegisterAt
                 | item.registers[2] << 24
                 | form.fieldBits(field);
             code.append(bits & UNIT_MASK);
@@ -735,7 +732,7 @@ public final class UnitDesk {
         }
 
         boolean strays(Reading reading) {
-            if (!reading.kind.goes()) {
+            if (!reading.kind.goes) {
                 return false;
             }
             int goal = reading.goal();
@@ -804,7 +801,7 @@ public final class UnitDesk {
                 bits |= code.units[address + 1] << 16;
             }
             registers[0] = bits >> 8 & 15;
-            registers[1] = bits >> kind.secondRegisterAt() & 15;
+            registers[1] = bits >> kind.secondRegisterAt & 15;
             registers[2] = bits >> 24 & 15;
             field = kind.fieldOf(bits);
             return true;
@@ -827,7 +824,7 @@ public final class UnitDesk {
                 case 5:
                     return kind.has('n') ? field : NONE;
                 case 6:
-                    return kind.goes() ? goal() : NONE;
+                    return kind.goes ? goal() : NONE;
                 case 7:
                     return kind == Kind.CASES ? caseCount : NONE;
                 default:

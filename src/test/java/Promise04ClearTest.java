@@ -4,6 +4,7 @@ public final class Promise04ClearTest {
         textIsEmptyThen();
         otherThingsStay();
         namesAreFreeAgain();
+        newItemsKeepNothingOfOldOnes();
         Expect.finish();
     }
 
@@ -43,5 +44,17 @@ public final class Promise04ClearTest {
         Expect.due("a new second item", desk.line("ret v4"), 1);
         Expect.due("assemble()", desk.assemble(), 2);
         Expect.same("the code", desk.units(), "0 1039");
+    }
+
+    private static void newItemsKeepNothingOfOldOnes() {
+        Desk desk = Desk.of("const v9 900", "add v1 v2 v15", "cases 9 :a :b :c :d", "addi v7 v7 77");
+        desk.clear();
+        desk.accept("nop");
+        desk.accept("addi v0 v0 0");
+        desk.accept("ret v0");
+        desk.accept("jump :a");
+        desk.accept(":a");
+        Expect.due("assemble()", desk.assemble(), 5);
+        Expect.same("the code", desk.units(), "0 216 0 15 296");
     }
 }

@@ -72,17 +72,21 @@ public final class Promise05AssembleTest {
     }
 
     private static void beginsAnew() {
-        Desk desk = Desk.of("const v1 5", "ret v1");
+        Desk desk = new Desk();
+        for (int r = 0; r < 16; r++) {
+            desk.accept("const v" + r + " 5");
+        }
+        desk.accept("ret v1");
         desk.assemble();
-        desk.run(9);
-        Expect.due("assemble() again", desk.assemble(), 2);
+        desk.run(30);
+        Expect.due("assemble() again", desk.assemble(), 17);
         for (int what = 0; what <= 19; what++) {
             Expect.due("state(" + what + ") after assemble()", desk.state(what), 0);
         }
-        Expect.due("it goes again", desk.run(9), 2);
-        desk.set(2, 77);
-        Expect.due("a unit that was set is gone", desk.assemble(), 2);
-        Expect.due("unit(2)", desk.unit(2), -2);
+        Expect.due("it goes again", desk.run(30), 17);
+        desk.set(17, 77);
+        Expect.due("a unit that was set is gone", desk.assemble(), 17);
+        Expect.due("unit(17)", desk.unit(17), -2);
     }
 
     private static void failuresChangeNothing() {
@@ -107,6 +111,14 @@ public final class Promise05AssembleTest {
         Expect.due("a table to nop", Desk.of(":a", "nop", "table v0 :a").assemble(), -7);
         Expect.due("a table to itself", Desk.of(":a", "table v0 :a").assemble(), -7);
         Expect.due("a table just behind cases", Desk.of("cases 0 :a", ":a", "nop", "table v0 :a").assemble(), -7);
+        Desk refused = Desk.of("table v0 :a", ":a");
+        refused.line("cases 0 :a 5");
+        Expect.due("a table to cases that were not taken", refused.assemble(), -7);
+        Desk cleared = Desk.of("nop", "cases 0 :a");
+        cleared.clear();
+        cleared.accept("table v0 :a");
+        cleared.accept(":a");
+        Expect.due("a table to cases that were cleared", cleared.assemble(), -7);
         Desk big = Desk.of(":a", "nop", "table v0 :a");
         repeat(big, FILLER, 33);
         Expect.due("BAD before FULL", big.assemble(), -7);

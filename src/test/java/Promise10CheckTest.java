@@ -13,6 +13,7 @@ public final class Promise10CheckTest {
         strays();
         tables();
         marksDoNotStay();
+        fullCode();
         nothingChanges();
         Expect.finish();
     }
@@ -87,6 +88,18 @@ public final class Promise10CheckTest {
         desk.accept(":a");
         desk.assemble();
         Expect.due("check() of less code than before", desk.check(), 0);
+    }
+
+    private static void fullCode() {
+        Desk desk = new Desk();
+        for (int i = 0; i < 200; i++) {
+            desk.set(i, 0);
+        }
+        Expect.due("check() of 200 units", desk.check(), NONE);
+        desk.set(199, SHORT + 256);
+        Expect.due("check() with a jump to 200", desk.check(), 199);
+        desk.set(199, LONG);
+        Expect.due("check() with half a jump at the end", desk.check(), 199);
     }
 
     private static void nothingChanges() {
