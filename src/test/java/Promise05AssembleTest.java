@@ -122,6 +122,13 @@ public final class Promise05AssembleTest {
         Desk big = Desk.of(":a", "nop", "table v0 :a");
         repeat(big, FILLER, 33);
         Expect.due("BAD before FULL", big.assemble(), -7);
+        Expect.due("the last label of cases is not set", Desk.of(":a", "cases 0 :a :a :a :b").assemble(), -6);
+        Expect.due("the first label of cases is not set", Desk.of(":a", "cases 0 :b :a :a :a").assemble(), -6);
+        Expect.due("the second of two tables to nop", Desk.of(":a", "nop", ":c", "cases 0 :a", "table v0 :c", "table v0 :a").assemble(), -7);
+        Expect.due("the first of two tables to nop", Desk.of(":a", "nop", ":c", "cases 0 :a", "table v0 :a", "table v0 :c").assemble(), -7);
+        Expect.due("two tables to cases", Desk.of(":a", "nop", ":c", "cases 0 :a", "table v0 :c", "table v0 :c").assemble(), 10);
+        Expect.due("a label that is set and not named", Desk.of(":a", "nop", ":b").assemble(), 1);
+        Expect.due("a label alone", Desk.of(":a").assemble(), 0);
         Desk unset = Desk.of("nop", "nop", "nop");
         repeat(unset, FILLER, 33);
         Expect.due("LABEL before FULL", unset.assemble(), -6);

@@ -8,6 +8,8 @@ public final class Promise12RunTest {
         conditions();
         tables();
         tablesThatDoNotGo();
+        tablesAtTheEndOfNumbers();
+        everyCountOfCases();
         stopsByRet();
         stopsByBad();
         stepsAtATime();
@@ -127,6 +129,44 @@ public final class Promise12RunTest {
         least.assemble();
         least.run(4);
         Expect.due("table with the least number", least.state(16), 8);
+    }
+
+    /** The REGISTERS hold more than a NUMBER, so 32768 is behind 32767 and is not -32768. */
+    private static void tablesAtTheEndOfNumbers() {
+        Expect.sentence("A is n and k (wrapping), k from 0 on being that of a LABEL of these");
+        int[] more = {0, 1, 2, -1};
+        int[] wantedItems = {4, 5, 3, 3};
+        for (int k = 0; k < more.length; k++) {
+            Desk desk = Desk.of("const v1 32767", "addi v1 v1 " + more[k], "table v1 :c", "ret v0", ":a", "nop", ":b", "nop", ":c",
+                "cases 32767 :a :b");
+            desk.assemble();
+            desk.run(3);
+            Expect.due("table with 32767 and " + more[k], desk.state(16), desk.item(wantedItems[k], 1));
+        }
+        Desk least = Desk.of("const v1 -32768", "table v1 :c", ":c", "cases 32767 :c :c :c :c");
+        least.assemble();
+        least.run(2);
+        Expect.due("table with -32768 and 32767 as the first", least.state(16), 4);
+        Desk first = Desk.of("const v1 -32768", "table v1 :c", "nop", "nop", ":c", "cases -32768 :c");
+        first.assemble();
+        first.run(2);
+        Expect.due("table with -32768 as the first", first.state(16), 6);
+        Desk greatest = Desk.of("const v1 -32768", "mul v2 v1 v1", "add v3 v2 v2", "addi v3 v3 -1", "table v3 :c", ":c", "cases -1 :c");
+        greatest.assemble();
+        greatest.run(5);
+        Expect.due("table with the greatest number", greatest.state(16), 10);
+    }
+
+    private static void everyCountOfCases() {
+        Expect.sentence("k from 0 on being that of a LABEL of these");
+        for (int many = 1; many <= 4; many++) {
+            for (int k = -1; k <= 4; k++) {
+                Desk desk = Desk.ofUnits(19 + 256, 5 + k, 43 + 256, 2, 256, many, 5, 100, 101, 102, 103);
+                desk.run(2);
+                int want = k >= 0 && k < many ? 2 + 100 + k : 4;
+                Expect.due("table with k " + k + " and " + many + " labels", desk.state(16), want);
+            }
+        }
     }
 
     private static void stopsByRet() {
