@@ -7,6 +7,7 @@ public final class Promise01NewObjectTest {
     }
 
     private static void allIsNought() {
+        Expect.sentence("The DRAFT, TEXT and CODE are empty, all REGISTERS 0, the PLACE 0");
         Desk desk = new Desk();
         for (int what = 0; what <= 24; what++) {
             Expect.due("state(" + what + ") of a new object", desk.state(what), 0);
@@ -22,6 +23,7 @@ public final class Promise01NewObjectTest {
     }
 
     private static void objectsAreApart() {
+        Expect.sentence("The DRAFT, TEXT and CODE are empty, all REGISTERS 0, the PLACE 0");
         Desk one = Desk.of(":a", "const v3 9", "jump :a");
         one.assemble();
         one.run(1);

@@ -8,6 +8,7 @@ public final class Promise02PutTest {
     }
 
     private static void edgesOfCharacters() {
+        Expect.sentence("Character c (0 to 255) comes to the end of the DRAFT: how many it has");
         Desk desk = new Desk();
         Expect.due("put(0)", desk.put(0), 1);
         Expect.due("put(255)", desk.put(255), 2);
@@ -20,6 +21,7 @@ public final class Promise02PutTest {
     }
 
     private static void fullAtForty() {
+        Expect.sentence("FULL if it has 40");
         Desk desk = new Desk();
         desk.type("nop");
         for (int i = 4; i <= 40; i++) {
@@ -33,6 +35,7 @@ public final class Promise02PutTest {
     }
 
     private static void refusedChangesNothing() {
+        Expect.sentence("A call that answers a number below 0 changes nothing");
         Desk desk = new Desk();
         desk.type("no");
         desk.put(-1);

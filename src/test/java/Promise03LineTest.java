@@ -23,6 +23,7 @@ public final class Promise03LineTest {
     }
 
     private static void partsOfLines() {
+        Expect.sentence("The DRAFT is read as a LINE");
         alone("nop", 0);
         alone(" , ,nop, ,", 0);
         alone("move v1,v2", 0);
@@ -44,6 +45,7 @@ public final class Promise03LineTest {
     }
 
     private static void firstWords() {
+        Expect.sentence("WORD for an unknown first WORD (also a LABEL with others behind it; \"\" if there is none)");
         String[] known = {"nop", "move v0 v1", "ret v0", "const v0 1", "add v0 v1 v2", "sub v0 v1 v2", "mul v0 v1 v2",
             "addi v0 v1 1", "jump :a", "jeq v0 v1 :a", "jlt v0 v1 :a", "jz v0 :a", "table v0 :a", "cases 1 :a"};
         for (String line : known) {
@@ -57,6 +59,7 @@ public final class Promise03LineTest {
     }
 
     private static void registers() {
+        Expect.sentence("ARGUMENT if the ARGUMENTS are not .. of the kinds and sizes as said");
         for (int r = 0; r <= 15; r++) {
             alone("ret v" + r, 0);
         }
@@ -69,6 +72,7 @@ public final class Promise03LineTest {
     }
 
     private static void numbers() {
+        Expect.sentence("ARGUMENT if the ARGUMENTS are not .. of the kinds and sizes as said");
         String[] right = {"0", "7", "8", "-8", "-9", "10", "32767", "-32768", "-1"};
         for (String number : right) {
             alone("const v0 " + number, 0);
@@ -88,6 +92,7 @@ public final class Promise03LineTest {
     }
 
     private static void labels() {
+        Expect.sentence("or sets a LABEL: 100 and how many LABELS the TEXT has then .. LABEL if this one is set already");
         String[] right = {":a", ":z", ":abcdef", ":zzzzzz", ":nop"};
         for (String label : right) {
             alone(label, 101);
@@ -110,6 +115,7 @@ public final class Promise03LineTest {
     }
 
     private static void countsOfArguments() {
+        Expect.sentence("ARGUMENT if the ARGUMENTS are not just as many (for cases one NUMBER and 1 to 4 LABELS)");
         String[] lines = {"nop v0", "nop 0", "move v0", "move", "move v0 v1 v2", "ret", "ret v0 v1", "const v0", "const v0 1 1",
             "add v0 v1", "add v0 v1 v2 v3", "addi v0 v1", "addi v0 v1 v2", "addi v0 v1 1 1", "jump", "jump :a :a", "jeq v0 :a",
             "jeq v0 v1", "jeq v0 v1 :a :a", "jz :a", "jz v0 v1 :a", "table v0", "table :a", "table v0 :a :a", "cases", "cases 1",
@@ -123,6 +129,7 @@ public final class Promise03LineTest {
     }
 
     private static void labelsAreCounted() {
+        Expect.sentence("100 and how many LABELS the TEXT has then");
         Desk desk = new Desk();
         Expect.due("cases with two names", desk.line("cases 1 :a :b :a"), 0);
         Expect.due("labels", desk.state(22), 2);
@@ -134,6 +141,7 @@ public final class Promise03LineTest {
     }
 
     private static void draftIsEmptyThen() {
+        Expect.sentence("and is empty then, whatever the answer");
         String[] lines = {"nop", ":a", ":a", "what", "ret", "cases 1 :a :b :c :d"};
         Desk desk = new Desk();
         for (String line : lines) {
@@ -143,6 +151,7 @@ public final class Promise03LineTest {
     }
 
     private static void fullItems() {
+        Expect.sentence("FULL if there is no room for the ITEM or LABEL (tested last)");
         Desk desk = new Desk();
         for (int i = 0; i < 40; i++) {
             Expect.due("item " + i, desk.line("nop"), i);
@@ -161,6 +170,7 @@ public final class Promise03LineTest {
     }
 
     private static void fullLabels() {
+        Expect.sentence("FULL if there is no room for the ITEM or LABEL (tested last)");
         Desk desk = new Desk();
         desk.accept("cases 0 :a :b :c :d");
         desk.accept("cases 0 :e :f :g :h");
@@ -178,6 +188,7 @@ public final class Promise03LineTest {
     }
 
     private static void failuresKeepNoLabels() {
+        Expect.sentence("A call that answers a number below 0 changes nothing");
         Desk desk = new Desk();
         desk.line("cases 0 :a :b :c 5");
         desk.line("jeq v0 v16 :a");

@@ -9,6 +9,7 @@ public final class Promise04ClearTest {
     }
 
     private static void textIsEmptyThen() {
+        Expect.sentence("The TEXT is empty: how many ITEMS it had");
         Desk desk = Desk.of(":a", "jump :a", "nop", "jump :b");
         Expect.due("long jumps before", desk.state(24), 1);
         Expect.due("clear()", desk.clear(), 3);
@@ -21,6 +22,7 @@ public final class Promise04ClearTest {
     }
 
     private static void otherThingsStay() {
+        Expect.sentence("(The CODE stays.)");
         Desk desk = Desk.of("const v2 5", "ret v2");
         desk.assemble();
         desk.run(2);
@@ -37,6 +39,7 @@ public final class Promise04ClearTest {
     }
 
     private static void namesAreFreeAgain() {
+        Expect.sentence("The TEXT is empty");
         Desk desk = Desk.of(":a", "add v1 v2 v3", "cases 5 :a :a");
         desk.clear();
         Expect.due("the label again", desk.line(":a"), 101);
@@ -47,6 +50,7 @@ public final class Promise04ClearTest {
     }
 
     private static void newItemsKeepNothingOfOldOnes() {
+        Expect.sentence("The TEXT is empty");
         Desk desk = Desk.of("const v9 900", "add v1 v2 v15", "cases 9 :a :b :c :d", "addi v7 v7 77");
         desk.clear();
         desk.accept("nop");

@@ -7,6 +7,7 @@ public final class Promise05AssembleTest {
         goingForms();
         casesAndTables();
         beginsAnew();
+        textAndDraftStay();
         failuresChangeNothing();
         orderOfFailures();
         twoHundredUnits();
@@ -26,6 +27,7 @@ public final class Promise05AssembleTest {
     }
 
     private static void plainForms() {
+        Expect.sentence("The CODE becomes that of the TEXT");
         code("0", "nop");
         code("8449", "move v1 v2");
         code("65281", "move v15 v15");
@@ -49,6 +51,7 @@ public final class Promise05AssembleTest {
     }
 
     private static void goingForms() {
+        Expect.sentence("The CODE becomes that of the TEXT");
         code("0 65320", ":a", "nop", "jump :a");
         code("552 0", "jump :a", "nop", ":a");
         code("296", "jump :a", ":a");
@@ -62,6 +65,7 @@ public final class Promise05AssembleTest {
     }
 
     private static void casesAndTables() {
+        Expect.sentence("The CODE becomes that of the TEXT");
         code("0 299 5 0 0 0 256 3 65534 65535 5 11",
             ":a", "nop", "table v1 :c", "nop", "nop", ":c", "cases -2 :a :c :e", ":e");
         code("0 0 256 1 0 2 43 65532", "nop", ":c", "cases 0 :c", "table v0 :c");
@@ -72,6 +76,7 @@ public final class Promise05AssembleTest {
     }
 
     private static void beginsAnew() {
+        Expect.sentence("the PLACE 0, all REGISTERS 0, and nothing was done");
         Desk desk = new Desk();
         for (int r = 0; r < 16; r++) {
             desk.accept("const v" + r + " 5");
@@ -89,7 +94,20 @@ public final class Promise05AssembleTest {
         Expect.due("unit(17)", desk.unit(17), -2);
     }
 
+    private static void textAndDraftStay() {
+        Expect.sentence("The CODE becomes that of the TEXT");
+        Desk desk = Desk.of(":a", "nop", "jump :a");
+        desk.type("ret v1");
+        desk.assemble();
+        Expect.due("items", desk.state(21), 2);
+        Expect.due("labels", desk.state(22), 1);
+        Expect.due("characters", desk.state(23), 6);
+        Expect.due("the line typed before", desk.line(), 2);
+        Expect.due("assemble()", desk.assemble(), 3);
+    }
+
     private static void failuresChangeNothing() {
+        Expect.sentence("A call that answers a number below 0 changes nothing");
         Desk desk = Desk.of("const v1 5", "ret v1");
         desk.assemble();
         desk.run(9);
@@ -106,6 +124,7 @@ public final class Promise05AssembleTest {
     }
 
     private static void orderOfFailures() {
+        Expect.sentence("LABEL if some LABEL is not set; BAD if a table means an ADDRESS that is not .. (In this order.)");
         Expect.due("a label that nothing sets", Desk.of("jz v0 :a").assemble(), -6);
         Expect.due("LABEL before BAD", Desk.of(":a", "nop", "table v0 :a", "jump :b").assemble(), -6);
         Expect.due("a table to nop", Desk.of(":a", "nop", "table v0 :a").assemble(), -7);
@@ -124,14 +143,19 @@ public final class Promise05AssembleTest {
         Expect.due("BAD before FULL", big.assemble(), -7);
         Expect.due("the last label of cases is not set", Desk.of(":a", "cases 0 :a :a :a :b").assemble(), -6);
         Expect.due("the first label of cases is not set", Desk.of(":a", "cases 0 :b :a :a :a").assemble(), -6);
-        Expect.due("the second of two tables to nop", Desk.of(":a", "nop", ":c", "cases 0 :a", "table v0 :c", "table v0 :a").assemble(), -7);
-        Expect.due("the first of two tables to nop", Desk.of(":a", "nop", ":c", "cases 0 :a", "table v0 :a", "table v0 :c").assemble(), -7);
-        Expect.due("two tables to cases", Desk.of(":a", "nop", ":c", "cases 0 :a", "table v0 :c", "table v0 :c").assemble(), 10);
+        twoTables("table v0 :c", "table v0 :nop", -7);
+        twoTables("table v0 :nop", "table v0 :c", -7);
+        twoTables("table v0 :c", "table v0 :c", 10);
         Expect.due("a label that is set and not named", Desk.of(":a", "nop", ":b").assemble(), 1);
         Expect.due("a label alone", Desk.of(":a").assemble(), 0);
         Desk unset = Desk.of("nop", "nop", "nop");
         repeat(unset, FILLER, 33);
         Expect.due("LABEL before FULL", unset.assemble(), -6);
+    }
+
+    private static void twoTables(String first, String second, int want) {
+        Desk desk = Desk.of(":nop", "nop", ":c", "cases 0 :nop", first, second);
+        Expect.due("assemble() of " + first + " and " + second, desk.assemble(), want);
     }
 
     private static void repeat(Desk desk, String line, int times) {
@@ -141,6 +165,7 @@ public final class Promise05AssembleTest {
     }
 
     private static void twoHundredUnits() {
+        Expect.sentence("FULL if there would be more than 200 UNITS");
         Desk desk = Desk.of(":a");
         repeat(desk, FILLER, 33);
         repeat(desk, "nop", 3);
@@ -152,6 +177,7 @@ public final class Promise05AssembleTest {
     }
 
     private static void overTwoHundredUnits() {
+        Expect.sentence("FULL if there would be more than 200 UNITS");
         Desk desk = Desk.of(":a", "nop");
         desk.assemble();
         repeat(desk, FILLER, 32);
@@ -169,6 +195,7 @@ public final class Promise05AssembleTest {
     }
 
     private static void shortEdgesForward() {
+        Expect.sentence("A jump is SHORT if its d is from -128 to 127 and not 0");
         Desk desk = Desk.of("jump :a");
         repeat(desk, FILLER, 21);
         desk.accept(":a");
@@ -187,6 +214,7 @@ public final class Promise05AssembleTest {
     }
 
     private static void shortEdgesBackward() {
+        Expect.sentence("A jump is SHORT if its d is from -128 to 127 and not 0");
         Desk desk = Desk.of(":a");
         repeat(desk, FILLER, 21);
         repeat(desk, "nop", 3);
@@ -204,6 +232,7 @@ public final class Promise05AssembleTest {
 
     /** Taken one by one, the second jump would reach once the first has become LONG: a gap goes away. */
     private static void allAtOnceBecomeLong() {
+        Expect.sentence("all that do not reach at once become LONG");
         Desk desk = Desk.of(":b", "jump :b", "nop", "jump :a");
         repeat(desk, FILLER, 21);
         desk.accept("nop");
@@ -215,6 +244,7 @@ public final class Promise05AssembleTest {
     }
 
     private static void oneLongMakesAnotherLong() {
+        Expect.sentence("then again and again all that do not reach at once become LONG");
         Desk desk = Desk.of("jump :a", ":b", "jump :b");
         repeat(desk, FILLER, 21);
         desk.accept(":a");

@@ -15,6 +15,7 @@ public final class Promise06ItemTest {
     }
 
     private static void opsAddressesAndUnits() {
+        Expect.sentence("its OP (18 for both forms of const; 40 for both of jump; 0 for nop; 256 for cases) .. its ADDRESS");
         Desk desk = Desk.of("nop", "move v1 v2", "ret v1", "const v1 7", "const v1 8", "add v1 v2 v3", "sub v1 v2 v3",
             "mul v1 v2 v3", "addi v1 v2 3", ":a", "jump :a", "jump :b", "jeq v1 v2 :b", "jlt v1 v2 :b", "jz v1 :b",
             "table v1 :b", "nop", ":b", "cases 1 :b", "cases 1 :a :a", "cases 1 :a :a :a", "cases 1 :a :a :a :a");
@@ -25,6 +26,7 @@ public final class Promise06ItemTest {
     }
 
     private static void labelsThatAreNotSet() {
+        Expect.sentence("as they would be if the LABELS that are not set meant ADDRESS 0");
         Desk desk = Desk.of("jump :x");
         Expect.due("units of a jump from 0 to 0", desk.item(0, 2), 2);
         Expect.due("long jumps", desk.state(24), 1);
@@ -47,6 +49,7 @@ public final class Promise06ItemTest {
     }
 
     private static void wrongInputs() {
+        Expect.sentence("REFUSED for another what; NONE if there is no such ITEM");
         Desk desk = Desk.of("nop");
         int[] whats = {-1, 3, 18, Integer.MIN_VALUE, Integer.MAX_VALUE};
         for (int what : whats) {

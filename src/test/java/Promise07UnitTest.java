@@ -1,6 +1,7 @@
 /** Promise 7: unit. */
 public final class Promise07UnitTest {
     public static void main(String[] args) {
+        Expect.sentence("UNIT i of the CODE; NONE if there is none");
         Desk desk = Desk.of("const v0 -9", "move v15 v15");
         Expect.due("unit(0) before assemble()", desk.unit(0), -2);
         desk.assemble();

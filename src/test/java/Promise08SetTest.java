@@ -9,6 +9,7 @@ public final class Promise08SetTest {
     }
 
     private static void changesAndAppends() {
+        Expect.sentence("with i as many as there are a UNIT comes at the end: how many there are");
         Desk desk = new Desk();
         Expect.due("set(0, 65535)", desk.set(0, 65535), 1);
         Expect.due("set(1, 0)", desk.set(1, 0), 2);
@@ -18,6 +19,7 @@ public final class Promise08SetTest {
     }
 
     private static void wrongInputs() {
+        Expect.sentence("REFUSED if w or i is not so");
         Desk desk = Desk.ofUnits(5, 6);
         String before = desk.snapshot();
         int[] values = {-1, 65536, Integer.MIN_VALUE, Integer.MAX_VALUE};
@@ -33,6 +35,7 @@ public final class Promise08SetTest {
     }
 
     private static void fullAtTwoHundred() {
+        Expect.sentence("FULL if there are 200");
         Desk desk = new Desk();
         for (int i = 0; i < 200; i++) {
             Expect.due("set(" + i + ")", desk.set(i, i), i + 1);
@@ -47,6 +50,7 @@ public final class Promise08SetTest {
     }
 
     private static void machineGoesOnWithNewUnits() {
+        Expect.sentence("UNIT i of the CODE is w (0 to 65535) from now on");
         Desk desk = Desk.of("const v1 5", "nop", "ret v1");
         desk.assemble();
         desk.run(1);

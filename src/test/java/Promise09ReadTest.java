@@ -25,6 +25,7 @@ public final class Promise09ReadTest {
     }
 
     private static void everyKind() {
+        Expect.sentence("NONE if it has no such thing");
         one(0, 0, 0, 1, NONE, NONE, NONE, NONE, NONE, NONE, NONE, NONE, NONE, NONE);
         one(1 + 256 * 3 + 4096 * 14, 0, 1, 1, 3, 14, NONE, NONE, NONE, NONE, NONE, NONE, NONE, NONE);
         one(15 + 256 * 12, 0, 15, 1, 12, NONE, NONE, NONE, NONE, NONE, NONE, NONE, NONE, NONE);
@@ -43,6 +44,7 @@ public final class Promise09ReadTest {
     }
 
     private static void bitsThatDoNotMatter() {
+        Expect.sentence("Bits that are not named do not matter");
         one(15 + 256 * 0xf1, 0, 15, 1, 1);
         one(19 + 256 * 0xf2, 5, 19, 2, 2, NONE, NONE, 5);
         one(144 + 256 * 0xf3, 0xf1f2, 144, 2, 3, 2, 1);
@@ -53,6 +55,7 @@ public final class Promise09ReadTest {
     }
 
     private static void signs() {
+        Expect.sentence("5: its NUMBER");
         Expect.due("four bits 7", Desk.ofUnits(18 + 4096 * 7).read(0, 5), 7);
         Expect.due("four bits 8", Desk.ofUnits(18 + 4096 * 8).read(0, 5), -8);
         Expect.due("four bits 15", Desk.ofUnits(18 + 4096 * 15).read(0, 5), -1);
@@ -65,6 +68,7 @@ public final class Promise09ReadTest {
     }
 
     private static void goals() {
+        Expect.sentence("6: the ADDRESS that it goes to (a and d; below 0 or behind the end, too)");
         Expect.due("a short jump by 127", Desk.ofUnits(0, 40 + 256 * 127).read(1, 6), 128);
         Expect.due("a short jump by -128", Desk.ofUnits(0, 40 + 256 * 128).read(1, 6), -127);
         Expect.due("a long jump by 32767", Desk.ofUnits(0, 41, 32767).read(1, 6), 32768);
@@ -76,6 +80,7 @@ public final class Promise09ReadTest {
     }
 
     private static void cases() {
+        Expect.sentence("7: how many LABELS cases has; 8 + k: d of LABEL k of it (k 0 to 3)");
         Desk four = Desk.ofUnits(256, 4, 65535, 1, 65535, 32768, 32767);
         all(four, 0, 256, 7, NONE, NONE, NONE, -1, NONE, 4, 1, -1, -32768, 32767);
         Desk one = Desk.ofUnits(0, 256, 1, 7, 9, 0);
@@ -89,6 +94,7 @@ public final class Promise09ReadTest {
     }
 
     private static void whatCanNotBeRead() {
+        Expect.sentence("BAD if nothing can be read there");
         int[] needTwo = {19, 144, 145, 146, 216, 41, 50, 51, 56, 43};
         for (int op : needTwo) {
             bad(op);
@@ -109,6 +115,7 @@ public final class Promise09ReadTest {
 
     /** Of all 256 OPs just those of the document can be read. */
     private static void everyOp() {
+        Expect.sentence("BAD if nothing can be read there");
         String known = " 1 15 18 19 144 145 146 216 40 41 50 51 56 43 ";
         for (int op = 1; op < 256; op++) {
             boolean isKnown = known.contains(" " + op + " ");
@@ -121,6 +128,7 @@ public final class Promise09ReadTest {
     }
 
     private static void wrongInputs() {
+        Expect.sentence("REFUSED for another what; BAD if nothing can be read there (or a is not that of a UNIT)");
         Desk desk = Desk.ofUnits(0, 2);
         int[] whats = {-1, 12, Integer.MIN_VALUE, Integer.MAX_VALUE};
         for (int what : whats) {

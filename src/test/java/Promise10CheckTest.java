@@ -23,6 +23,7 @@ public final class Promise10CheckTest {
     }
 
     private static void allIsWell() {
+        Expect.sentence("NONE if all is well");
         due(NONE);
         due(NONE, 0);
         due(NONE, SHORT);
@@ -40,6 +41,7 @@ public final class Promise10CheckTest {
     }
 
     private static void unreadable() {
+        Expect.sentence("the first ADDRESS at which nothing can be read");
         due(0, 2);
         due(1, 0, 512);
         due(2, 0, 0, 19);
@@ -52,6 +54,7 @@ public final class Promise10CheckTest {
     }
 
     private static void strays() {
+        Expect.sentence("the least one of a thing with a d to an ADDRESS at which none of these things begins .. the end is none either");
         due(0, SHORT + 256 * 2, 19, 0);
         due(0, SHORT + 256);
         due(0, SHORT + 256 * 255);
@@ -67,6 +70,7 @@ public final class Promise10CheckTest {
     }
 
     private static void tables() {
+        Expect.sentence("of table: not one that is cases");
         due(0, TABLE, 2, 0);
         due(0, TABLE, 0);
         due(0, TABLE, 2);
@@ -78,6 +82,7 @@ public final class Promise10CheckTest {
     }
 
     private static void marksDoNotStay() {
+        Expect.sentence("The CODE is gone through from ADDRESS 0 on");
         Desk desk = Desk.ofUnits(0, 0, SHORT + 256 * 255);
         Expect.due("check() with a thing at 1", desk.check(), NONE);
         desk.set(0, 19);
@@ -91,6 +96,7 @@ public final class Promise10CheckTest {
     }
 
     private static void fullCode() {
+        Expect.sentence("The CODE is gone through from ADDRESS 0 on");
         Desk desk = new Desk();
         for (int i = 0; i < 200; i++) {
             desk.set(i, 0);
@@ -103,6 +109,7 @@ public final class Promise10CheckTest {
     }
 
     private static void nothingChanges() {
+        Expect.sentence("A call that answers a number below 0 changes nothing");
         Desk desk = Desk.of("const v1 5", "jump :a", ":a", "nop");
         desk.assemble();
         desk.run(2);

@@ -14,6 +14,7 @@ public final class Promise11ToldTest {
     }
 
     private static void everyKind() {
+        Expect.sentence("the first WORD as above, then a space before each ARGUMENT");
         one("nop", 0);
         one("move v15 v0", 1 + 256 * 15);
         one("ret v10", 15 + 256 * 0xfa);
@@ -30,6 +31,7 @@ public final class Promise11ToldTest {
     }
 
     private static void goals() {
+        Expect.sentence("ADDRESSES to which it goes .. as NUMBERS, too (with \"-\" below 0)");
         one("jump 0", 40);
         one("jump 127", 40 + 256 * 127);
         one("jump -128", 40 + 256 * 128);
@@ -46,6 +48,7 @@ public final class Promise11ToldTest {
     }
 
     private static void cases() {
+        Expect.sentence("and the d of cases, as NUMBERS, too (with \"-\" below 0)");
         one("cases 0 3", 256, 1, 0, 3);
         one("cases -1 65 -2", 256, 2, 65535, 65, 65534);
         one("cases 7 0 0 0", 256, 3, 7, 0, 0, 0);
@@ -55,6 +58,7 @@ public final class Promise11ToldTest {
     }
 
     private static void edgesOfK() {
+        Expect.sentence("Character k of that; with k = -1 how many it has. NONE for another k");
         Desk desk = Desk.ofUnits(0, 400, 770);
         Expect.due("told(1, -1)", desk.told(1, -1), 12);
         Expect.due("told(1, 0)", desk.told(1, 0), 'a');
@@ -69,11 +73,14 @@ public final class Promise11ToldTest {
     }
 
     private static void whatCanNotBeRead() {
+        Expect.sentence("BAD if nothing can be READ there");
         Desk desk = Desk.ofUnits(0, 512, 19);
         int[] addresses = {1, 2, 3, -1, 200, Integer.MIN_VALUE, Integer.MAX_VALUE};
         for (int a : addresses) {
             Expect.due("told(" + a + ", -1)", desk.told(a, -1), -7);
             Expect.due("told(" + a + ", 0)", desk.told(a, 0), -7);
+            Expect.due("told(" + a + ", -2), where no text is", desk.told(a, -2), -7);
+            Expect.due("told(" + a + ", 99), where no text is", desk.told(a, 99), -7);
         }
     }
 }

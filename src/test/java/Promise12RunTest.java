@@ -26,6 +26,7 @@ public final class Promise12RunTest {
     }
 
     private static void calculations() {
+        Expect.sentence("add, sub, mul, addi: A becomes B and C (n) added, less it, or multiplied");
         Desk desk = done(7, "const v1 7", "const v2 -300", "add v3 v1 v2", "sub v4 v1 v2", "mul v5 v1 v2", "addi v6 v2 -128",
             "move v7 v5");
         int[] want = {0, 7, -300, -293, 307, -2100, -428, -2100, 0};
@@ -37,6 +38,7 @@ public final class Promise12RunTest {
     }
 
     private static void wrapping() {
+        Expect.sentence("added, less it, or multiplied (wrapping)");
         Desk desk = done(6, "const v1 -32768", "mul v2 v1 v1", "add v3 v2 v2", "addi v4 v3 -1", "sub v5 v4 v3", "mul v6 v4 v4");
         Expect.due("v2", desk.state(2), 1 << 30);
         Expect.due("v3", desk.state(3), Integer.MIN_VALUE);
@@ -46,12 +48,14 @@ public final class Promise12RunTest {
     }
 
     private static void sameRegisters() {
+        Expect.sentence("A becomes B and C (n) added, less it, or multiplied");
         Desk desk = done(5, "const v15 5", "add v15 v15 v15", "mul v15 v15 v15", "sub v0 v15 v0", "addi v15 v15 1");
         Expect.due("v15", desk.state(15), 101);
         Expect.due("v0", desk.state(0), 100);
     }
 
     private static void jumps() {
+        Expect.sentence("the PLACE is where it goes");
         Desk desk = done(3, "jump :b", ":a", "const v1 1", "ret v1", ":b", "const v2 2", "jump :a");
         Expect.due("the place", desk.state(16), 1);
         Expect.due("v1", desk.state(1), 0);
@@ -71,6 +75,7 @@ public final class Promise12RunTest {
     }
 
     private static void conditions() {
+        Expect.sentence("jeq if A is B, jlt if A is less than B, jz if A is 0");
         condition("jeq v1 v2", 3, 3, true);
         condition("jeq v1 v2", 3, 4, false);
         condition("jeq v1 v2", -300, -300, true);
@@ -97,6 +102,7 @@ public final class Promise12RunTest {
     }
 
     private static void tables() {
+        Expect.sentence("the PLACE is its own ADDRESS and d of that LABEL");
         choice(-2, -1);
         choice(-1, 3);
         choice(0, 4);
@@ -115,6 +121,7 @@ public final class Promise12RunTest {
     }
 
     private static void tablesThatDoNotGo() {
+        Expect.sentence("if at the ADDRESS to which it goes cases can be READ .. else the next one");
         int[][] codes = {{43, 2, 0, 0}, {43, 2}, {43, 65535}, {43, 32767}, {43, 2, 256, 1, 0}, {43, 2, 256, 0, 0, 0},
             {43, 2, 256, 5, 0, 1, 1, 1, 1, 1}, {43, 2, 256, 1, 1, 9}, {43, 2, 256, 1, 65535, 9}};
         for (int[] units : codes) {
@@ -143,7 +150,7 @@ public final class Promise12RunTest {
             desk.run(3);
             Expect.due("table with 32767 and " + more[k], desk.state(16), desk.item(wantedItems[k], 1));
         }
-        Desk least = Desk.of("const v1 -32768", "table v1 :c", ":c", "cases 32767 :c :c :c :c");
+        Desk least = Desk.of("const v1 -32768", "table v1 :c", "nop", "nop", ":c", "cases 32767 :c :c :c :c");
         least.assemble();
         least.run(2);
         Expect.due("table with -32768 and 32767 as the first", least.state(16), 4);
@@ -151,7 +158,8 @@ public final class Promise12RunTest {
         first.assemble();
         first.run(2);
         Expect.due("table with -32768 as the first", first.state(16), 6);
-        Desk greatest = Desk.of("const v1 -32768", "mul v2 v1 v1", "add v3 v2 v2", "addi v3 v3 -1", "table v3 :c", ":c", "cases -1 :c");
+        Desk greatest = Desk.of("const v1 -32768", "mul v2 v1 v1", "add v3 v2 v2", "addi v3 v3 -1", "table v3 :c", "nop", "nop", ":c",
+            "cases -1 :c :c :c :c");
         greatest.assemble();
         greatest.run(5);
         Expect.due("table with the greatest number", greatest.state(16), 10);
@@ -170,6 +178,7 @@ public final class Promise12RunTest {
     }
 
     private static void stopsByRet() {
+        Expect.sentence("ret: it stops, the PLACE stays, A is the OUTCOME");
         Desk desk = Desk.of("const v9 -77", "ret v9", "const v9 1");
         desk.assemble();
         Expect.due("run(30)", desk.run(30), 2);
@@ -186,6 +195,7 @@ public final class Promise12RunTest {
     }
 
     private static void stopsByBad() {
+        Expect.sentence("BAD if nothing can be READ at the PLACE (steps before that were done); it has stopped .. till the next assemble");
         Desk desk = Desk.of("const v1 5", "nop");
         desk.assemble();
         Expect.due("run(3)", desk.run(3), -7);
@@ -206,6 +216,7 @@ public final class Promise12RunTest {
     }
 
     private static void stepsAtATime() {
+        Expect.sentence("So many steps (1 to 30) are done");
         Desk desk = Desk.of(":a", "addi v1 v1 1", "jump :a");
         desk.assemble();
         Expect.due("run(30)", desk.run(30), 30);
@@ -216,6 +227,7 @@ public final class Promise12RunTest {
     }
 
     private static void placesOutside() {
+        Expect.sentence("BAD if nothing can be READ at the PLACE (steps before that were done)");
         Desk below = Desk.ofUnits(40 + 256 * 128);
         Expect.due("run(1) to -128", below.run(1), 1);
         Expect.due("the place", below.state(16), -128);
@@ -232,6 +244,7 @@ public final class Promise12RunTest {
     }
 
     private static void wrongInputs() {
+        Expect.sentence("REFUSED for another n");
         Desk desk = Desk.of("nop", "nop");
         desk.assemble();
         int[] numbers = {0, 31, -1, Integer.MIN_VALUE, Integer.MAX_VALUE};

@@ -10,6 +10,7 @@ public final class Promise13StateTest {
     }
 
     private static void everyRegister() {
+        Expect.sentence("What 0 to 15: that REGISTER");
         Desk desk = new Desk();
         for (int r = 0; r < 16; r++) {
             desk.accept("const v" + r + " " + (100 + r));
@@ -22,6 +23,7 @@ public final class Promise13StateTest {
     }
 
     private static void counts() {
+        Expect.sentence("20: UNITS, 21: ITEMS, 22: LABELS; 23: characters in the DRAFT");
         Desk desk = Desk.of(":a", "const v0 9", "cases 1 :a :b", ":b");
         desk.type("no");
         Expect.due("units before assemble()", desk.state(20), 0);
@@ -35,6 +37,7 @@ public final class Promise13StateTest {
     }
 
     private static void machine() {
+        Expect.sentence("steps since assemble, 18: 0 if the machine goes on, 1 if it stopped by ret, 2 by BAD; 19: the OUTCOME (0 before)");
         Desk desk = Desk.of("const v3 9", "nop", "ret v3");
         desk.assemble();
         desk.run(1);
@@ -54,6 +57,7 @@ public final class Promise13StateTest {
     }
 
     private static void longJumps() {
+        Expect.sentence("24: jumps in the TEXT that are LONG, as for item");
         Desk desk = Desk.of(":a", "jump :a");
         Expect.due("a jump to itself", desk.state(24), 1);
         desk.accept("jump :a");
@@ -71,6 +75,7 @@ public final class Promise13StateTest {
     }
 
     private static void others() {
+        Expect.sentence("NONE for others");
         Desk desk = new Desk();
         int[] whats = {-1, 25, 100, Integer.MIN_VALUE, Integer.MAX_VALUE};
         for (int what : whats) {

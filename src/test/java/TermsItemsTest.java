@@ -208,6 +208,8 @@ public final class TermsItemsTest {
         units("0 0 256 1 0 2 43 65532", 2, "nop", "nop", ":c", "cases 0 :c", "table v0 :c");
         units("43 4 43 6 256 1 0 2 256 1 0 6", 4, "table v0 :c", "table v0 :e", ":c", "cases 0 :c", ":e", "cases 0 :e");
         units("43 2 256 1 0 2 43 2 256 1 0 65532", 4, "table v0 :c", ":c", "cases 0 :c", "table v0 :e", ":e", "cases 0 :c");
+        units("0 0 43 4 43 2 256 1 0 2", 4, "nop", "nop", "table v0 :c", "table v0 :c", ":c", "cases 0 :c");
+        units("0 43 5 43 3 0 256 1 0 65533 256 1 0 65533", 4, ":a", "nop", "table v0 :c", "table v0 :c", ":c", "cases 0 :a", "cases 0 :a");
         Expect.sentence("d is the ADDRESS that L means, less the ADDRESS of the ITEM");
         units("0 56 65535 56 65533", 2, ":a", "nop", "jz v0 :a", "jz v0 :a");
         units("56 5 0 56 2", 2, "jz v0 :a", "nop", "jz v0 :a", ":a");

@@ -126,7 +126,7 @@ public final class TermsJumpsTest {
     }
 
     private static void othersDoNotChangeTheirForm() {
-        Expect.sentence("jeq A B L 2 units, jz A L 2 units, table A L 2 units");
+        Expect.sentence("jeq A B L 2 units .. jz A L 2 units .. table A L 2 units");
         Desk desk = Desk.of(":f", "jz v0 :a", "jeq v0 v0 :a", "jlt v0 v0 :f", "jz v0 :f", "table v0 :f", "jz v0 :n", ":n");
         for (int i = 0; i < 6; i++) {
             Expect.due("units of item " + i, desk.item(i, 2), 2);

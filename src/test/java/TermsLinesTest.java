@@ -99,7 +99,8 @@ public final class TermsLinesTest {
 
     private static void semicolonIsLeftOut() {
         Expect.sentence("What is behind a semicolon (59) is left out, with it");
-        all(0, "nop;", "nop ;", "nop;x", "nop ; x", "nop;;", "nop; nop ; nop", "ret v1;5", "ret v1; v2", "jump :a;b", "nop" + ";".repeat(37));
+        all(0, "nop;", "nop ;", "nop;x", "nop ; x", "nop;;", "nop; nop ; nop", "ret v1;5", "ret v1; v2", "jump :a;b",
+            "nop" + ";".repeat(37));
         all(101, ":a;", ":a;b", ":a ;:b", ":a; nop");
         all(ARGUMENT, "ret;v1", "ret ;v1", "move v1;v2", "move v1 ;v2", "const v1 ;5");
         all(WORD, ";", ";nop", " ;nop", ",;nop", "no;p", "nop:", "nop<", ";".repeat(40));
@@ -162,8 +163,8 @@ public final class TermsLinesTest {
         desk.assemble();
         Expect.due("NUMBER of const v1 12345", desk.read(0, 5), 12345);
         Expect.due("NUMBER of const v1 -26789", desk.read(2, 5), -26789);
-        String[] wrong = {"-", "--1", "1-", "1-1", "+1", "+", "1/", "1:", "/", ":", "-/", "-:", "1/1", "1:1", "1.0", "1e1", "x", "1x", "0x1",
-            "v1", ":a", "\u00b2", "-v1"};
+        String[] wrong = {"-", "--1", "1-", "1-1", "+1", "+", "1/", "1:", "/", ":", "-/", "-:", "1/1", "1:1", "1.0", "1e1",
+            "x", "1x", "0x1", "v1", ":a", "\u00b2", "-v1"};
         for (String number : wrong) {
             all(ARGUMENT, "const v1 " + number, "addi v1 v1 " + number, "cases " + number + " :a");
         }
