@@ -11,6 +11,7 @@ public final class Promise10CheckTest {
         allIsWell();
         unreadable();
         strays();
+        insideOfThings();
         tables();
         marksDoNotStay();
         fullCode();
@@ -67,6 +68,19 @@ public final class Promise10CheckTest {
         due(0, SHORT + 256 * 2, 256, 1, 0, 0);
         due(1, 0, LONG, 50, 56, 1);
         due(2, LONG, 2, 56, 1, 51, 1);
+    }
+
+    /** What could be READ inside of a thing is none of the things that are gone through. */
+    private static void insideOfThings() {
+        Expect.sentence("READING one thing behind the other");
+        due(NONE, 19, SHORT + 256 * 100);
+        due(NONE, 19, SHORT + 256 * 100, 0);
+        due(NONE, 19, LONG, 0);
+        due(NONE, 19, 2, 0);
+        due(NONE, 256, 1, SHORT + 256 * 100, LONG);
+        due(NONE, 256, 2, SHORT + 256 * 100, TABLE, 2);
+        due(3, 19, SHORT + 256 * 100, 0, SHORT + 256 * 100);
+        due(4, 256, 1, 56, 1, SHORT + 256);
     }
 
     private static void tables() {

@@ -72,6 +72,10 @@ public final class Promise13StateTest {
         Expect.due("after clear()", desk.state(24), 0);
         desk.accept("jump :c");
         Expect.due("a label that is not set means 0", desk.state(24), 1);
+        Desk refused = Desk.of(":a", "nop");
+        refused.line("jump");
+        refused.accept(":b");
+        Expect.due("a jump that was not taken", refused.state(24), 0);
     }
 
     private static void others() {

@@ -92,6 +92,7 @@ public final class RefusalTest {
         }
         all.append(" r").append(desk.run(1)).append(',').append(desk.state(16));
         all.append(" l").append(desk.line()).append(',').append(desk.state(22));
+        all.append(" s").append(desk.line(":zz")).append(',').append(desk.state(24));
         all.append(" a").append(desk.assemble()).append(',').append(desk.units());
         all.append(" c").append(desk.clear());
         return all.toString();
