@@ -161,6 +161,9 @@ public final class TermsJumpsTest {
         sixes(five, "f", 20);
         accept(five, ":f", "jump :f", ":a", ":b", ":c", "nop", "nop", ":e", "nop", ":d", "nop", ":g");
         Expect.due("long jumps after five rounds", five.state(24), 7);
+        for (int i = 0; i <= 6; i++) {
+            Expect.due("address of item " + i + " after five rounds", five.item(i, 1), 2 * i);
+        }
         Expect.due("assemble()", five.assemble(), 138);
     }
 
